@@ -175,7 +175,7 @@ public final class ModelRunsTest {
         for (int i = random.nextInt(3); i > 0; i--) {
             int at = random.nextInt(other.length());
             String[] odd = {";", " ", "0", "9", "1234567890123", "costs 1 2 3 4 5 6;", "limit 3;", "para 1;", "x",
-                "page", "heading 2;", "\t", "\n", "\u00e9", "P", "-", "000000000000", "book", "limit", ";;", "5;limit 1"};
+                "page", "heading 2;", "\t", "\0", "\n", "\u00e9", "P", "-", "000000000000", "book", "limit", ";;", "5;limit 1"};
             switch (random.nextInt(3)) {
                 case 0: other.deleteCharAt(at); break;
                 case 1: other.setLength(at + 1); break;

@@ -121,6 +121,8 @@ public final class PromisesTest {
         error("boo 10 2 0;", -2, 0);
         error(" books 10 2 0;", -2, 1);
         error("Book 10 2 0;", -2, 0);
+        error("cook 10 2 0;", -2, 0);
+        error("bool 10 2 0;", -2, 0);
         error("book 9 2 0;", -3, 5);
         error("book 61 1 0;", -3, 5);
         error("book 10 1 0;", -3, 8);
@@ -135,11 +137,19 @@ public final class PromisesTest {
         error("book 10 2 0; ;", -2, 13);
         error("book 10 2 0;7;", -2, 12);
         error("book 10 2 0;\tpara 1;", -2, 12);
+        error("book 10 2 0;\0", -2, 12);
+        error("\0", -2, 0);
+        error("book 10 2 0;\u00ff", -2, 12);
         error("book 10 2 0;\npara 1;", -2, 12);
         error("book 10 2 0;par\u00e1 1;", -2, 12);
         error("book 10 2 0;para\u00e9;", -2, 16);
         error("book 10 2 0;paras 1;", -2, 12);
         error("book 10 2 0;parapage 1;", -2, 12);
+        error("book 10 2 0;paraz 1;", -2, 12);
+        error("book 10 2 0;para{1;", -2, 16);
+        error("book 10 2 0;para`1;", -2, 16);
+        error("book 10 2 0;para/1;", -2, 16);
+        error("book 10 2 0;para:1;", -2, 16);
         error("book 10 2 0;para pages 1;", -2, 17);
         error("book 10 2 0;para page page 1;", -2, 22);
         error("book 10 2 0;para 1 page;", -2, 19);
@@ -253,6 +263,8 @@ public final class PromisesTest {
         row("widow and orphan", new int[] {30, 2, 1, 1, 0, 0, 3}, what -> both.plan(false, what));
         row("likewise", new int[] {30, 2, 1, 1, 0, 0, 3}, what -> both.plan(true, what));
         // A paragraph of one line is neither.
+        WidowWatch widows = loaded("book 10 2 0;limit 0;para 8 8 8;para 8 8;");
+        row("two widows", new int[] {50, 3, 2, 1, 0, 0, 5}, what -> widows.plan(false, what));
         WidowWatch single = loaded("book 10 2 0;limit 0;para 8 8;para 8;");
         row("one line", new int[] {0, 2, 0, 0, 0, 0, 3}, what -> single.plan(false, what));
         WidowWatch heading = loaded("book 10 2 0;para 5;heading 5;para 5;");
@@ -306,6 +318,25 @@ public final class PromisesTest {
         WidowWatch wider = loaded("book 10 4 0;limit 3;costs 0 0 1 100 100 100;para 8;heading 8;para 8 8 8;");
         due("with limit 3 it is not", 1, () -> wider.page(true, 0, 0));
         due("with limit 3 it costs", 3, () -> wider.plan(true, 0));
+        // To end early would keep B's second line from the head of the page, but cost more behind it.
+        WidowWatch ahead = loaded("book 10 2 0;para 8;para 8 8 8;");
+        row("what lies behind the page", new int[] {10, 2, 0, 1, 0, 0, 4}, what -> ahead.plan(true, what));
+        // Missing lines ahead of a paragraph that begins no page cost more than the heading at the foot.
+        WidowWatch foot = loaded("book 10 2 0;costs 1 1 2 20 10 1;para 5;heading 5;para 5;");
+        row("heading at the foot", new int[] {1, 2, 0, 0, 1, 0, 3}, what -> foot.plan(true, what));
+        WidowWatch first = loaded("book 10 3 0;costs 1 1 2 20 10 90;heading 8 8 8;para 8 8;");
+        row("the first paragraph's heading", new int[] {22, 2, 1, 0, 0, 1, 5}, what -> first.plan(true, what));
+        // The last paragraph that there can be, and the last line of it.
+        WidowWatch full = loaded("book 10 2 2;limit 0;para 8 8;" + "para 8;".repeat(14) + "para 5 6 8;");
+        due("16 paragraphs", 2, () -> full.plan(true, 0));
+        due("the 16th", 1, () -> full.paragraph(15, 7));
+        WidowWatch long30 = loaded("book 10 29 0;para" + " 8".repeat(30) + ";");
+        row("30 lines", new int[] {28, 2}, page -> long30.page(true, page, 0));
+        // Nothing of an earlier plan is left behind.
+        WidowWatch gone = loaded("book 10 2 0;costs 0 0 1 0 0 50;heading 8 8;para 8;");
+        due("with the paragraph behind the heading", 1, () -> gone.plan(true, 0));
+        gone.remove(1);
+        row("without it", new int[] {0, 1, 0, 0, 0, 0, 2}, what -> gone.plan(true, what));
         // The first line of the book ends no page, whatever it begins.
         due("first begins", 1, () -> loaded("book 10 2 0;para page 8;").plan(true, 1));
     }
@@ -322,6 +353,12 @@ public final class PromisesTest {
         WidowWatch forced = loaded("book 10 5 0;heading 5;para page 5;para 5;");
         row("forced 0", new int[] {1, 0, 0, 0, 0}, what -> forced.page(true, 0, what));
         row("forced 1", new int[] {2, 1, 0, 30, 0}, what -> forced.page(true, 1, what));
+        WidowWatch longer = loaded("book 10 2 0;para 8;para page 8 8 8 8;");
+        row("ahead of a begin", new int[] {1, 0, 0, 0, 0}, what -> longer.page(false, 0, what));
+        WidowWatch within = loaded("book 10 3 0;para page 8 8 8 8;");
+        row("within a paragraph that begins a page", new int[] {2, 0, 0, 0, 2}, what -> within.page(true, 0, what));
+        WidowWatch next = loaded("book 10 2 0;limit 1;costs 0 0 5 0 0 99;para 8;heading 8;para 8 8;");
+        row("ahead of a paragraph that does not", new int[] {1, 0, 0, 0, 5}, what -> next.page(true, 0, what));
         due("page -1", NO_INDEX, () -> x.page(true, -1, 5));
         due("page 3", NO_INDEX, () -> x.page(false, 3, -1));
         due("page 2 of the plan that is asked", NO_INDEX, () -> forced.page(false, 2, 0));
@@ -594,6 +631,13 @@ public final class PromisesTest {
         WidowWatch x = loaded("book 10 2 0;heading 8 8 8;");
         x.fix(0, 0);
         due("one paragraph", one, x::checksum);
+        long tight = 0;
+        for (int n : new int[] {10, 2, 2, 1, 1, 3, 0, 1, 1, 2, 20, 10, 30, 3, 3, 2, 3, 0, 0, -1, 1,
+            20, 2, 1, 0, 0, 0, 3, 2, 0, 0, 0, 0, 1, 0, 2, 20, 0,
+            2, 1, 0, 0, 0, 0, 2, 2, 0, 0, 0, 0}) {
+            tight = 31 * tight + n;
+        }
+        due("a tight one", tight, () -> loaded("book 10 2 2;para 5 6 8;").checksum());
     }
 
     private static void largest() {
