@@ -967,7 +967,6 @@ public final class WidowWatch {
             int p = draft.paragraphs;
             draft.openParagraph(p, isHeading, takesWord("page"));
             for (int k = 0; k <= MOST_WORDS && error == 0 && (k == 0 || isDigit(nextByte())); k++) {
-                nextByte();
                 int first = at;
                 int word = takeNumber(1, draft.longestWord());
                 if (k == MOST_WORDS) {

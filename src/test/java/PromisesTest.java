@@ -1,17 +1,5 @@
-import java.util.NoSuchElementException;
-import java.util.function.Supplier;
-
 /** For each promise of the document: ordinary inputs, the edges that it names, and wrong inputs. */
-public final class PromisesTest {
-    private static final Class<?> NO_INDEX = IndexOutOfBoundsException.class;
-    private static final Class<?> NO_ARGUMENT = IllegalArgumentException.class;
-    private static final Class<?> NO_ELEMENT = NoSuchElementException.class;
-    private static final Class<?> NO_STATE = IllegalStateException.class;
-    private static final String THIRTY = " 1".repeat(30);
-
-    private static int wrong = 0;
-    private static String promise = "";
-
+public final class PromisesTest extends Answers {
     public static void main(String[] args) {
         newObject();
         append();
@@ -38,14 +26,11 @@ public final class PromisesTest {
         undo();
         checksum();
         largest();
-        System.out.println(wrong == 0 ? "all promises hold" : wrong + " answers are wrong");
-        if (wrong != 0) {
-            System.exit(1);
-        }
+        endTests("PromisesTest");
     }
 
     private static void newObject() {
-        promise = "1 a new object";
+        promise("1 a new object");
         WidowWatch x = new WidowWatch();
         row("state", new int[] {40, 10, 4, 1, 0, 0, 0, 1, 1, 2, 20, 10, 30}, x::state);
         row("plain plan", new int[7], what -> x.plan(false, what));
@@ -61,7 +46,7 @@ public final class PromisesTest {
     }
 
     private static void append() {
-        promise = "2 append";
+        promise("2 append");
         WidowWatch x = new WidowWatch();
         for (int length = 20; length <= 700; length += 20) {
             due("append " + length, length, () -> x.append(0x626f6f6b, 0x31302032, 0x20303b20, 0x20202020, -1));
@@ -78,7 +63,7 @@ public final class PromisesTest {
     }
 
     private static void load() {
-        promise = "3 load";
+        promise("3 load");
         WidowWatch x = new WidowWatch();
         due("costs and limit anywhere", 2, () -> feed(x, "book 30 20 9;para 1 21;costs 999 0 1 2 3 4;heading page 7;"
                 + "limit 9;"));
@@ -112,7 +97,7 @@ public final class PromisesTest {
     }
 
     private static void firstErrors() {
-        promise = "3 and 4, first errors";
+        promise("3 and 4, first errors");
         error("", -2, 0);
         error("   ", -2, 3);
         error("book", -2, 4);
@@ -178,7 +163,7 @@ public final class PromisesTest {
     }
 
     private static void errorOffset() {
-        promise = "4 errorOffset";
+        promise("4 errorOffset");
         WidowWatch x = new WidowWatch();
         due("without load", -1, x::errorOffset);
         due("a load that throws", NO_ARGUMENT, () -> x.load(1));
@@ -197,7 +182,7 @@ public final class PromisesTest {
     }
 
     private static void state() {
-        promise = "5 state";
+        promise("5 state");
         WidowWatch x = loaded("book 50 30 7;limit 5;costs 11 12 13 14 15 16;para 1 2;heading 3;para 4 5 6;");
         x.fix(0, 0);
         x.fix(2, 2);
@@ -208,7 +193,7 @@ public final class PromisesTest {
     }
 
     private static void paragraph() {
-        promise = "6 paragraph";
+        promise("6 paragraph");
         // Line ends: 10 fit in a normal line, 12 in a tight one, 8 in a loose one.
         WidowWatch x = loaded("book 10 2 2;para 5 6 8;heading 4 5;para page 4 3;heading page 8 8;");
         x.fix(3, 2);
@@ -224,7 +209,7 @@ public final class PromisesTest {
     }
 
     private static void word() {
-        promise = "7 word";
+        promise("7 word");
         WidowWatch x = loaded("book 10 2 2;para 5 6 8;heading 4;");
         row("words", new int[] {5, 6, 8}, k -> x.word(0, k));
         due("the next one's", 4, () -> x.word(1, 0));
@@ -236,7 +221,7 @@ public final class PromisesTest {
     }
 
     private static void lineLength() {
-        promise = "8 lineLength";
+        promise("8 lineLength");
         WidowWatch x = loaded("book 10 2 2;para 1 1;para 5 4 1 8 1 1 8;");
         row("normal", new int[] {10, 10, 3, 8}, line -> x.lineLength(1, 0, line));
         row("tight", new int[] {12, 12, 8}, line -> x.lineLength(1, 1, line));
@@ -253,7 +238,7 @@ public final class PromisesTest {
     }
 
     private static void plan() {
-        promise = "9 plan";
+        promise("9 plan");
         // One line, then four on pages of two: an orphan and a widow in the plain plan.
         WidowWatch lines = loaded("book 10 2 0;para 8;para 8 8 8 8;");
         row("plain", new int[] {30, 3, 1, 1, 0, 0, 5}, what -> lines.plan(false, what));
@@ -290,7 +275,7 @@ public final class PromisesTest {
     }
 
     private static void bestPlan() {
-        promise = "9, which plan is best";
+        promise("9, which plan is best");
         // The widow costs 20, two tight lines 20: the smaller setting is ahead.
         WidowWatch tie = loaded("book 10 2 2;limit 0;costs 10 10 2 20 10 30;para 5 6 8;");
         due("costs of the tie", 20, () -> tie.plan(true, 0));
@@ -342,7 +327,7 @@ public final class PromisesTest {
     }
 
     private static void page() {
-        promise = "10 page";
+        promise("10 page");
         WidowWatch x = loaded("book 10 2 0;para 8;para 8 8 8 8;");
         row("plain 0", new int[] {2, 0, 0, 0, 0}, what -> x.page(false, 0, what));
         row("plain 1", new int[] {2, 1, 1, 10, 0}, what -> x.page(false, 1, what));
@@ -368,7 +353,7 @@ public final class PromisesTest {
     }
 
     private static void pageOf() {
-        promise = "11 pageOf";
+        promise("11 pageOf");
         WidowWatch x = loaded("book 10 2 0;para 8;para 8 8 8 8;");
         row("plain", new int[] {0, 1, 1, 2}, line -> x.pageOf(false, 1, line));
         row("best", new int[] {1, 1, 2, 2}, line -> x.pageOf(true, 1, line));
@@ -387,7 +372,7 @@ public final class PromisesTest {
     }
 
     private static void help() {
-        promise = "12 help";
+        promise("12 help");
         WidowWatch x = loaded("book 10 2 2;para 5 6 8;");
         due("no page 1 any more", 1, () -> x.help(1));
         due("the first page", -2, () -> x.help(0));
@@ -411,7 +396,7 @@ public final class PromisesTest {
     }
 
     private static void saved() {
-        promise = "13 saved";
+        promise("13 saved");
         WidowWatch x = loaded("book 10 2 2;para 5 6 8;");
         due("20 less 2", 18, x::saved);
         x.fix(0, 2);
@@ -424,7 +409,7 @@ public final class PromisesTest {
     }
 
     private static void fullness() {
-        promise = "14 fullness";
+        promise("14 fullness");
         due("no pages", 0.0f, () -> new WidowWatch().fullness());
         due("three of seven", 3.0f / 7.0f, () -> loaded("book 10 7 0;para 8 8 8;").fullness());
         due("of the best plan", 1.0f, () -> loaded("book 10 2 2;para 5 6 8;").fullness());
@@ -432,7 +417,7 @@ public final class PromisesTest {
     }
 
     private static void fix() {
-        promise = "15 fix";
+        promise("15 fix");
         WidowWatch x = loaded("book 10 2 2;para 8;para 5 6 8;");
         due("was free", -1, () -> x.fix(1, 2));
         due("setting", 2, () -> x.paragraph(1, 7));
@@ -450,7 +435,7 @@ public final class PromisesTest {
     }
 
     private static void begin() {
-        promise = "16 begin";
+        promise("16 begin");
         WidowWatch x = loaded("book 10 4 0;para 8;para 8;");
         due("did not", false, () -> x.begin(1, true));
         due("pages", 2, () -> x.plan(false, 1));
@@ -465,7 +450,7 @@ public final class PromisesTest {
     }
 
     private static void insert() {
-        promise = "17 insert";
+        promise("17 insert");
         WidowWatch x = loaded("book 10 2 2;heading page 1;heading page 2;");
         x.fix(0, 1);
         x.fix(1, 2);
@@ -494,7 +479,7 @@ public final class PromisesTest {
     }
 
     private static void remove() {
-        promise = "18 remove";
+        promise("18 remove");
         WidowWatch x = loaded("book 10 2 2;para 1;heading page 2 2;para 3 3 3;");
         x.fix(1, 2);
         due("words", 1, () -> x.remove(0));
@@ -508,7 +493,7 @@ public final class PromisesTest {
     }
 
     private static void retouch() {
-        promise = "19 retouch";
+        promise("19 retouch");
         WidowWatch x = loaded("book 10 2 2;para 5 4 3;para 7;");
         due("another length", 3, () -> x.retouch(0, 1, 8));
         row("words", new int[] {5, 8, 3}, k -> x.word(0, k));
@@ -536,7 +521,7 @@ public final class PromisesTest {
     }
 
     private static void setCost() {
-        promise = "20 setCost";
+        promise("20 setCost");
         WidowWatch x = new WidowWatch();
         row("before", new int[] {1, 1, 2, 20, 10, 30}, which -> x.setCost(which, 990 + which));
         row("then", new int[] {990, 991, 992, 993, 994, 995}, which -> x.state(7 + which));
@@ -561,7 +546,7 @@ public final class PromisesTest {
     }
 
     private static void undo() {
-        promise = "21 undo";
+        promise("21 undo");
         WidowWatch x = loaded("book 10 2 2;para 5 6 8;para 3;");
         long first = x.checksum();
         due("load is a change", 0, x::undo);
@@ -616,7 +601,7 @@ public final class PromisesTest {
     }
 
     private static void checksum() {
-        promise = "22 checksum";
+        promise("22 checksum");
         long empty = 0;
         for (int n : new int[] {40, 10, 4, 1, 0, 0, 0, 1, 1, 2, 20, 10, 30, 0, 0, 0, 0, 0, 0, 0, 0, 0, 0, 0, 0, 0, 0}) {
             empty = 31 * empty + n;
@@ -641,7 +626,7 @@ public final class PromisesTest {
     }
 
     private static void largest() {
-        promise = "9 to 14, the largest books";
+        promise("9 to 14, the largest books");
         WidowWatch high = new WidowWatch();
         feed(high, "book 60 40 9;limit 9;");
         WidowWatch low = new WidowWatch();
@@ -659,58 +644,5 @@ public final class PromisesTest {
         low.retouch(0, 29, 0);
         due("a last line alone", 239, () -> low.pageOf(false, 15, 29));
         due("missing", 1, () -> low.plan(false, 5));
-    }
-
-    // What the tests are written with.
-
-    private static int feed(WidowWatch x, String text) {
-        for (int at = 0; at < text.length(); at += 20) {
-            int[] five = new int[5];
-            for (int i = 0; i < 20; i++) {
-                five[i / 4] = five[i / 4] << 8 | (at + i < text.length() ? text.charAt(at + i) : '?');
-            }
-            x.append(five[0], five[1], five[2], five[3], five[4]);
-        }
-        return x.load(text.length());
-    }
-
-    private static WidowWatch loaded(String text) {
-        WidowWatch x = new WidowWatch();
-        int answer = feed(x, text);
-        if (answer < 0) {
-            due("load \"" + text + "\"", "no error", () -> answer);
-        }
-        return x;
-    }
-
-    private static void error(String text, int code, int offset) {
-        WidowWatch x = new WidowWatch();
-        due("load \"" + text + "\"", code, () -> feed(x, text));
-        due("errorOffset of \"" + text + "\"", offset, x::errorOffset);
-    }
-
-    private interface Row {
-        int at(int index);
-    }
-
-    private static void row(String name, int[] want, Row got) {
-        for (int i = 0; i < want.length; i++) {
-            int index = i;
-            due(name + ", " + i, want[i], () -> got.at(index));
-        }
-    }
-
-    /** want is the answer that is due, or the class of the exception. */
-    private static void due(String call, Object want, Supplier<Object> asked) {
-        Object got;
-        try {
-            got = asked.get();
-        } catch (RuntimeException thrown) {
-            got = thrown.getClass();
-        }
-        if (!got.equals(want)) {
-            wrong++;
-            System.out.println("promise " + promise + ": " + call + " answered " + got + ", due is " + want);
-        }
     }
 }
