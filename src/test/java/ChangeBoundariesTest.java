@@ -105,7 +105,8 @@ public final class ChangeBoundariesTest extends Answers {
         row("its words", new int[] {8, 7, 6}, k -> kinds.word(1, k));
         kinds.remove(1);
         kinds.insert(1, 1, 1);
-        row("at the place of one that is removed", new int[] {1, 1, 1, 1, 0, 0, -1, 0}, what -> kinds.paragraph(1, what));
+        row("at the place of one that is removed", new int[] {1, 1, 1, 1, 0, 0, -1, 0},
+                what -> kinds.paragraph(1, what));
         due("31st word of it", NO_ELEMENT, () -> kinds.word(1, 1));
 
         WidowWatch ahead = loaded("book 10 2 2;para 3;heading page" + THIRTY.substring(2) + " 7;");
@@ -396,8 +397,8 @@ public final class ChangeBoundariesTest extends Answers {
 
     private static void undoNothing() {
         promise("21 undo");
-        says("Returns the number of changes that can still be undone; -1 if there was none to undo, and nothing changes "
-                + "then.");
+        says("Returns the number of changes that can still be undone; -1 if there was none to undo, and nothing "
+                + "changes then.");
         WidowWatch x = new WidowWatch();
         String before = told(x);
         row("of a new object", new int[] {-1, -1}, i -> x.undo());
