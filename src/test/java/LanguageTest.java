@@ -26,7 +26,7 @@ public final class LanguageTest {
 
     public static void main(String[] args) throws IOException {
         face();
-        nestedClasses();
+        classes();
         text(Files.readString(Path.of("src/main/java/WidowWatch.java")));
         System.out.println(wrong == 0 ? "the rules looked at are kept" : wrong + " rules are broken");
         if (wrong != 0) {
@@ -63,22 +63,37 @@ public final class LanguageTest {
         check(Modifier.isFinal(WidowWatch.class.getModifiers()), "1: final");
     }
 
-    private static void nestedClasses() {
+    private static void classes() {
         Class<?>[] nested = WidowWatch.class.getDeclaredClasses();
         check(nested.length <= 11, "11: classes");
+        oneClass(WidowWatch.class);
         for (Class<?> one : nested) {
             check(Modifier.isStatic(one.getModifiers()), "1: " + one + " is not static");
-            int fields = 0;
-            for (Field field : one.getDeclaredFields()) {
-                boolean isStatic = Modifier.isStatic(field.getModifiers());
-                fields += isStatic ? 0 : 1;
-                check(!isStatic || Modifier.isFinal(field.getModifiers()), "5: " + field);
-            }
-            check(fields <= 20, "11: the fields of " + one);
-            for (Method method : one.getDeclaredMethods()) {
-                check(method.getParameterCount() <= 7, "11: the parameters of " + method);
-            }
+            oneClass(one);
         }
+    }
+
+    private static void oneClass(Class<?> one) {
+        int fields = 0;
+        for (Field field : one.getDeclaredFields()) {
+            boolean isStatic = Modifier.isStatic(field.getModifiers());
+            fields += isStatic ? 0 : 1;
+            check(!isStatic || Modifier.isFinal(field.getModifiers()), "5: " + field);
+        }
+        check(fields <= 20, "11: the fields of " + one);
+        for (Method method : one.getDeclaredMethods()) {
+            check(method.getParameterCount() <= 7, "11: the parameters of " + method);
+        }
+    }
+
+    private static void methodLengths(String code) {
+        Matcher block = Pattern.compile("(?ms)^( {4}| {8})(\\w[^\n;=]*\\([^{;]*\\{)$.*?^\\1\\}$").matcher(code);
+        int methods = 0;
+        for (int at = 0; block.find(at); at = block.start() + 1) {
+            methods++;
+            check(block.group().lines().count() <= 60, "11: the length of " + block.group(2));
+        }
+        check(methods > 80, "11: the methods that are found in the text are " + methods);
     }
 
     private static void text(String text) {
@@ -95,6 +110,7 @@ public final class LanguageTest {
         }
         check(indexed.equals(Set.of("row[index]", "from[i]", "to[i]", "books[i]", "books[index]")),
                 "7: indexes " + indexed);
+        methodLengths(code);
     }
 
     private static void check(boolean isKept, String rule) {

@@ -615,6 +615,11 @@ public final class PlanBoundariesTest extends Answers {
                 () -> loaded("book 10 2 2;para 5 6 8;para page 8;").help(1));
         due("the first one of the book, too", 1, () -> loaded("book 10 4 2;para page 5 6;para 8 8 8;").help(1));
 
+        says("Returns 10 * that paragraph + the setting");
+        String ahead = "para 8;".repeat(15);
+        due("of the last one of 16", 151, () -> loaded("book 10 17 2;" + ahead + "para 5 6 8;").help(1));
+        due("with loose", 152, () -> loaded("book 10 17 2;" + ahead + "para 4 5 8 8;").help(1));
+
         says("-1 if none helps");
         due("without slack", -1, () -> loaded("book 10 2 0;para 5 6 8;").help(1));
     }
